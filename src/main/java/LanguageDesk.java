@@ -35,7 +35,7 @@ public final class LanguageDesk {
     // A good grammar has no left recursion, so the open productions that begin at one token are of different rules.
     private static final int DEPTH = 1 + RULES * ROOM;
 
-    // Before one token is taken, each open production is left at most once and each of its symbols passed at most once.
+    // Far above need: before a token is taken, each open production is left and each of its symbols passed once at most.
     private static final int STEPS = 1000000;
 
     private static final int EXPECTED_ROOM = ROOM + 1;
@@ -422,7 +422,7 @@ public final class LanguageDesk {
         }
     }
 
-    /** Plain roles stay where no sentence is, also behind a text's end, so those who look for a role need not ask for either. */
+    /** Where no sentence is, and behind a text's end, roles stay plain: whoever looks for a role need not ask for either. */
     private void clearMarks(int file) {
         for (int at = 0; at < ROOM; at++) {
             roleAt[file * ROOM + at] = 0;
@@ -524,7 +524,6 @@ public final class LanguageDesk {
         return count;
     }
 
-    /** The place of token number k among those of a file that have the role. */
     private int placeOf(int file, int role, int k) {
         if (!isFile(file)) {
             return NONE;

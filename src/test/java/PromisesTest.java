@@ -25,7 +25,9 @@ public final class PromisesTest {
         unresolved();
         renameGivesNames();
         renameRefuses();
+        fullTexts();
         restart();
+        restartForgetsProductions();
         A.close();
     }
 
@@ -151,6 +153,7 @@ public final class PromisesTest {
         built(17, "0 : 1", "5 : R4", "4 : R1", "4 :", "1 : R1");
         built(19, "0 : 1", "2 : R3", "2 :");
         built(20, "0 : 1", "0 : 1", "5 : R4", "5 : 1");
+        built(20, "5 : R4", "5 : 1", "0 : 1");
         built(0, "0 : R1", "1 : R2", "2 : R3", "3 : R4", "4 : R5", "5 : 1");
         built(0, "5 : 1", "4 : R5", "3 : R4", "2 : R3", "1 : R2", "0 : R1");
         built(0, "0 :");
@@ -186,6 +189,7 @@ public final class PromisesTest {
         built(0, "0 : R1 R2 R3 4", "1 : 5", "1 :", "2 : 2", "2 :", "3 : 3", "3 :");
         built(34, "0 : R1 R2 R3 4", "1 : 3", "1 :", "2 : 2", "2 :", "3 : 3", "3 :");
         built(0, "0 : R1 R2 R3 4", "1 : 4", "1 :", "2 : 2", "3 : 3", "3 :");
+        built(35, "0 : 0 R1 2", "0 : 5 R1 3", "1 : 2", "1 :");
         built(35, "0 : R1 1", "1 : 0 R1", "1 : 1", "1 :");
         built(35, "0 : 2 R1 R0", "0 :", "1 : 2", "1 :");
     }
@@ -205,6 +209,11 @@ public final class PromisesTest {
         A.due("build answers the same again", x.build(), LanguageDesk.CONFLICT + 3);
         Desks.enter(x, "3 : R4");
         A.due("the rule comes before the conflict", x.build(), LanguageDesk.UNPRODUCTIVE + 3);
+
+        x = Desks.entered("0 : R1 R2 5", "1 : 5", "1 :", "2 :");
+        A.due("5 follows rule 1", x.build(), LanguageDesk.CONFLICT + 2);
+        x.symbol(6, 0);
+        A.due("5 follows rule 1 no more", x.build(), LanguageDesk.OK);
 
         x = Desks.built("0 : 1", "1 :");
         A.due("build", x.build(), LanguageDesk.BUILT);
@@ -502,6 +511,11 @@ public final class PromisesTest {
         A.due("outer scope", x.target(0, 0), 0);
         A.due("inner scope", x.target(0, 1), 1);
         A.due("not in the inner scope", x.target(0, 2), -1);
+
+        x = Desks.built("0 : 2 R1 2", "1* : 1r 0d 0d 1r");
+        Desks.append(x, 0, "2.0 1.5 0.5 0.6 1.6 2.0");
+        A.due("the first token of a scope", x.target(0, 0), 0);
+        A.due("the last token of a scope", x.target(0, 1), 1);
     }
 
     /** Promise 13, across files. */
@@ -661,6 +675,14 @@ public final class PromisesTest {
         refused("the reference would go to definition 2", x, 2, 1, 1);
         refused("definition 0 would be the first 2", x, 2, 0, 2);
 
+        // The very first token counts too.
+        x = Desks.built(Desks.BLOCKS);
+        Desks.append(x, 0, "1.1 0.2");
+        refused("the unresolved first token would have a target", x, 0, 0, 1);
+        x.put(0, 0, 1, 2);
+        A.due("the first token refers to it", x.rename(0, 0, 3), true);
+        text(x, "first token", 0, "1.3 0.3");
+
         // A reference from another file alone can forbid it.
         x = Desks.built(Desks.BLOCKS);
         Desks.append(x, 0, "0.1 0.2");
@@ -670,6 +692,46 @@ public final class PromisesTest {
         refused("file 1 has 5 in the scope of its reference", x, 0, 0, 5);
         A.due("free", x.rename(0, 0, 7), true);
         text(x, "free", 1, "4.0 4.2 1.3 2.0 0.5 1.7 3.0");
+    }
+
+    /** Promises 6 and 11 to 16 in four texts of twenty tokens. */
+    private static void fullTexts() {
+        LanguageDesk x = Desks.built(Desks.BLOCKS);
+        for (int file = 0; file < 4; file++) {
+            for (int at = 0; at < 20; at++) {
+                x.put(file, at, 0, at % 16);
+            }
+        }
+        for (int file = 0; file < 4; file++) {
+            A.due("all tokens define", x.definitions(file), 20);
+            A.due("no token refers", x.references(file), 0);
+            A.due("names 0 to 3 again", x.duplicates(file), 4);
+            A.due("delete", x.delete(file, 0), true);
+            A.due("one less", x.definitions(file), 19);
+            A.due("the last moved up", x.token(file, 18), 3);
+            A.due("nothing behind it", x.token(file, 19), -1);
+            A.due("names 1 to 3 again", x.duplicates(file), 3);
+            A.due("append", x.put(file, 19, 1, 3), true);
+            A.due("the last refers", x.references(file), 1);
+            A.due("to the first of its name", x.target(file, 0), 32 * file + 2);
+        }
+        A.due("rename", x.rename(3, 18, 1), true);
+        A.due("rename", x.rename(3, 2, 14), false);
+        A.due("all resolved", x.unresolved(), 0);
+
+        x = Desks.built(Desks.BLOCKS);
+        for (int at = 0; at < 19; at++) {
+            x.put(3, at, 0, 1);
+            x.put(0, at, 1, 2);
+        }
+        x.put(3, 19, 0, 2);
+        x.put(0, 19, 4, 7);
+        A.due("last token of the last file", x.target(0, 0), 96 + 19);
+        A.due("last token of the last file", x.target(0, 18), 96 + 19);
+        A.due("rename", x.rename(3, 19, 15), true);
+        A.due("the definition", x.token(3, 19), 15);
+        A.due("its last reference", x.token(0, 18), 31);
+        A.due("the import", x.token(0, 19), 71);
     }
 
     /** Promise 17. */
@@ -708,5 +770,28 @@ public final class PromisesTest {
         for (int number = 0; number < 14; number++) {
             A.due("fourteen again", x.production(5, false), number);
         }
+    }
+
+    /** Promise 17: no production of the grammar before counts. */
+    private static void restartForgetsProductions() {
+        LanguageDesk x = Desks.built("0 : 4", "1 : 2", "1 : 3", "2 : R1 2");
+        x.restart();
+        Desks.enter(x, "0 : R1 3", "1 : 2", "1 :");
+        A.due("2 follows rule 1 no more", x.build(), LanguageDesk.OK);
+
+        x = Desks.built("0 : 4", "1* : 2d", "1* : 5d", "1* : 3d");
+        x.restart();
+        Desks.enter(x, "0 : R1 3", "1 : 2", "1 :");
+        A.due("build", x.build(), LanguageDesk.OK);
+        Desks.append(x, 0, "3.1");
+        A.due("rule 1 is empty here", x.errorAt(0), -1);
+        A.due("not the role it had", x.definitions(0), 0);
+        A.due("not the scope it had", x.scope(0, 0), -1);
+        Desks.append(x, 1, "2.1 3.1");
+        A.due("not the role it had", x.definitions(1), 0);
+        A.due("not the scope it had", x.scope(1, 0), -1);
+        x.restart();
+        Desks.enter(x, "1 : 2", "0 : R1");
+        A.due("rule 1 alone of all rules but 0", x.build(), LanguageDesk.OK);
     }
 }
