@@ -15,6 +15,20 @@ final class Answers {
         due(call, got ? 1L : 0L, want ? 1L : 0L);
     }
 
+    /** Runs the test of one sentence of the document; tells the sentence if it does not hold. */
+    void test(String sentence, Runnable test) {
+        int before = wrong;
+        try {
+            test.run();
+        } catch (RuntimeException thrown) {
+            wrong++;
+            System.out.println("a call threw " + thrown);
+        }
+        if (wrong != before) {
+            System.out.println("BROKEN: " + sentence);
+        }
+    }
+
     int wrong() {
         return wrong;
     }

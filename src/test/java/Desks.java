@@ -49,6 +49,9 @@ final class Desks {
 
     /** Appends the tokens to the file's text. */
     static void append(LanguageDesk desk, int file, String tokens) {
+        if (tokens.isEmpty()) {
+            return;
+        }
         int at = 0;
         while (desk.token(file, at) >= 0) {
             at++;
