@@ -467,6 +467,10 @@ public final class GrammarBoundaryTest {
         build(33, "0 : 9 R0 9", "0 :");
         build(33, "0 : 0 R0 0", "0 :");
         build(0, "0 : 9 R0 0", "0 :");
+        // What follows rule 1 in the first of two places counts as well as in the second.
+        build(35, "0 : 0 R1 2", "0 : 5 R1 3", "1 : 2", "1 :");
+        build(35, "0 : 0 R1 2", "0 : 5 R1 3", "1 : 3", "1 :");
+        build(0, "0 : 0 R1 2", "0 : 5 R1 3", "1 : 4", "1 :");
     }
 
     private static void buildOfEmptyString() {

@@ -41,6 +41,8 @@ public final class LinkBoundaryTest {
         A.test("13: the least and the greatest target", LinkBoundaryTest::targetLeastAndGreatest);
         A.test("13: the first definition of that name", LinkBoundaryTest::targetIsFirst);
         A.test("13: the innermost of its scopes that has one", LinkBoundaryTest::targetIsInnermost);
+        A.test("13: the first and the last token of a scope are in it", LinkBoundaryTest::targetAtTheEndsOfScope);
+        A.test("13: the largest scope that is not the whole text", LinkBoundaryTest::targetInLargeScope);
         A.test("13: if none of its scopes has one, the root", LinkBoundaryTest::targetInRoot);
         A.test("13: a scope that does not contain it has none for it", LinkBoundaryTest::targetNotBesideIt);
         A.test("13: the file with number value mod 4 is imported", LinkBoundaryTest::importsModFour);
@@ -361,6 +363,22 @@ public final class LinkBoundaryTest {
         x.put(0, 0, 0, 2);
         A.due("none", x.target(0, 0), -1);
         A.due("behind it, but in its scope", blocks("0.1 2.0 1.1 0.1 3.0").target(0, 0), 1);
+    }
+
+    private static void targetAtTheEndsOfScope() {
+        LanguageDesk x = Desks.built("0 : 0d R1 2", "1* : 1r R3 1r", "3 : 0d");
+        Desks.append(x, 0, "0.5 1.5 0.5 1.5 2.0");
+        A.due("the first token", x.target(0, 0), 1);
+        A.due("the last token", x.target(0, 1), 1);
+    }
+
+    private static void targetInLargeScope() {
+        LanguageDesk x = blocks("0.1 2.0 0.1 1.1 2.0 3.0 2.0 3.0 2.0 3.0 2.0 3.0 2.0 3.0 2.0 3.0 2.0 3.0 4.0 3.0");
+        A.due("scope", x.scope(0, 3), 32 + 19);
+        A.due("the scope, not the root before it", x.target(0, 0), 1);
+        x = blocks("2.0 1.1 0.1 2.0 3.0 2.0 3.0 2.0 3.0 2.0 3.0 2.0 3.0 2.0 3.0 2.0 3.0 4.0 3.0 0.1");
+        A.due("scope", x.scope(0, 1), 18);
+        A.due("the scope, not the root behind it", x.target(0, 0), 0);
     }
 
     private static void targetInRoot() {

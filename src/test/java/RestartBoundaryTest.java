@@ -13,6 +13,7 @@ public final class RestartBoundaryTest {
         A.test("17: everything as in a fresh object, from every state", RestartBoundaryTest::asFresh);
         A.test("17: restart twice", RestartBoundaryTest::twice);
         A.test("17: no production is left", RestartBoundaryTest::noProductions);
+        A.test("17: no production behind the new ones is left", RestartBoundaryTest::noLaterProductions);
         A.test("17: no symbol, role or scope is left", RestartBoundaryTest::noSymbols);
         A.test("17: not built", RestartBoundaryTest::notBuilt);
         A.test("17: no text is left", RestartBoundaryTest::noTexts);
@@ -78,6 +79,23 @@ public final class RestartBoundaryTest {
             }
             A.due("15th production", x.production(0, false), -1);
         }
+    }
+
+    /** The productions entered anew are fewer: what lies behind them must not count. */
+    private static void noLaterProductions() {
+        LanguageDesk x = restarted(y -> Desks.enter(y, "0 : 4", "1 : 2", "1 : 3", "2 : R1 2"));
+        Desks.enter(x, "0 : R1 3", "1 : 2", "1 :");
+        A.due("2 follows rule 1 no more", x.build(), 0);
+        x = restarted(y -> Desks.enter(y, "0 : 4", "1* : 2d", "1* : 5d", "1* : 3d"));
+        Desks.enter(x, "0 : R1 3", "1 : 2", "1 :");
+        A.due("build", x.build(), 0);
+        Desks.append(x, 0, "3.1");
+        A.due("3 begins rule 1 no more", x.definitions(0), 0);
+        A.due("3 begins rule 1 no more", x.scope(0, 0), -1);
+        A.due("3 begins rule 1 no more", x.errorAt(0), -1);
+        x = restarted(y -> Desks.enter(y, "0 : 4", "0 : 5", "1 : 2"));
+        Desks.enter(x, "0 : R1", "0 : 5");
+        A.due("rule 1 has no production any more", x.build(), 17);
     }
 
     private static void noSymbols() {
