@@ -1,3 +1,5 @@
+import java.util.ArrayList;
+import java.util.List;
 import java.util.function.Consumer;
 
 /** The boundary cases of promise 16, each sentence that names one with a test of its own. */
@@ -32,6 +34,7 @@ public final class RenameBoundaryTest {
         A.test("16: the first and the last definition of a full text", RenameBoundaryTest::firstAndLast);
         A.test("16: references in all files", RenameBoundaryTest::allReferences);
         A.test("16: a reference that would find the name elsewhere only", RenameBoundaryTest::nearMisses);
+        A.test("16: true in every case that is not told as false", RenameBoundaryTest::noOtherCaseIsFalse);
         A.close();
     }
 
@@ -267,5 +270,67 @@ public final class RenameBoundaryTest {
         made(1, 0, 2, blocks("4.2 4.1 1.2", "0.1", "0.2"), blocks("4.2 4.1 1.2", "0.2", "0.2"));
         made(1, 0, 2, blocks("4.1 1.2 0.2", "0.1"), blocks("4.1 1.2 0.2", "0.2"));
         made(1, 0, 2, blocks("4.2 1.2", "0.1"), blocks("4.2 1.2", "0.2"));
+    }
+
+    /** Every definition to every name: whether it may be is asked of an object that got the new values by hand. */
+    private static void noOtherCaseIsFalse() {
+        String[][] all = {{"0.1 1.1 2.0 0.2 1.1 1.2 3.0 1.2 4.1 1.3", "0.3 0.2 1.1 4.2", "2.0 0.1 3.0 0.1", "4.0 1.1 4.1 1.3"},
+            {"0.1 0.1 1.1 0.2", "4.0 1.1 1.2 1.3", "4.1 4.0 0.3 1.2", "0.1 3.0"},
+            {"2.0 0.1 2.0 0.2 1.1 1.2 1.3 3.0 0.3 3.0 0.3 1.1", "1.3 4.0 4.4 0.2 0.2", "", "4.1 1.2 1.3 4.0"},
+            {"4.0 1.1 0.1 0.2 0.1", "4.0 4.2 1.2", "0.2 0.3", "4.1 4.2 4.0 1.2 1.3 1.1"}};
+        for (String[] texts : all) {
+            for (int file = 0; file < 4; file++) {
+                for (int d = 0; d < States.after(blocks(texts)).definitions(file); d++) {
+                    for (int name = 0; name < 16; name++) {
+                        asByHand(file, d, name, texts);
+                    }
+                }
+            }
+        }
+    }
+
+    private static void asByHand(int file, int d, int name, String... texts) {
+        LanguageDesk before = States.after(blocks(texts));
+        LanguageDesk byHand = States.after(blocks(texts));
+        setValue(byHand, file, 0, d, name);
+        for (int other = 0; other < 4; other++) {
+            for (int k = 0; k < before.references(other); k++) {
+                if (before.target(other, k) == 32 * file + d) {
+                    setValue(byHand, other, 1, k, name);
+                }
+            }
+        }
+        boolean want = links(before, file).equals(links(byHand, file));
+        LanguageDesk x = States.after(blocks(texts));
+        String call = "rename(" + file + ", " + d + ", " + name + ") of " + String.join(" / ", texts);
+        A.due(call, x.rename(file, d, name), want);
+        for (int other = 0; other < 4; other++) {
+            A.due(call + " leaves file " + other, Desks.text(x, other).equals(Desks.text(want ? byHand : before, other)), true);
+        }
+    }
+
+    /** Gives a new value to the token of that kind that has that number among those of its kind. */
+    private static void setValue(LanguageDesk x, int file, int kind, int number, int value) {
+        int seen = 0;
+        for (int at = 0; x.token(file, at) >= 0; at++) {
+            if (x.token(file, at) / 16 == kind) {
+                if (seen == number) {
+                    x.put(file, at, kind, value);
+                }
+                seen++;
+            }
+        }
+    }
+
+    /** All targets, and the duplicates of one file. */
+    private static List<Integer> links(LanguageDesk x, int file) {
+        List<Integer> all = new ArrayList<>();
+        for (int other = 0; other < 4; other++) {
+            for (int k = 0; k < x.references(other); k++) {
+                all.add(x.target(other, k));
+            }
+        }
+        all.add(x.duplicates(file));
+        return all;
     }
 }
