@@ -6,6 +6,7 @@ public final class TermsTest {
         A.test("every answer speaks of the texts as they stand", TermsTest::asTheyStand);
 
         A.test("GRAMMAR: rule 0 is the start", TermsTest::startRule);
+        A.test("GRAMMAR: a production has 0 to 4 symbols", TermsTest::symbols);
         A.test("GRAMMAR: productions are numbered as they are begun", TermsTest::numbers);
         A.test("GRAMMAR: a rule derives a string if one of its productions does", TermsTest::derives);
         A.test("GRAMMAR: FIRST, the terminals that begin strings which X derives", TermsTest::first);
@@ -15,12 +16,16 @@ public final class TermsTest {
         A.test("GRAMMAR: FOLLOW, if the rest is nullable", TermsTest::followPastTheRest);
         A.test("GRAMMAR: FOLLOW, the least sets", TermsTest::followIsLeast);
         A.test("GRAMMAR: PREDICT, FOLLOW if the production is nullable", TermsTest::predict);
+        A.test("GRAMMAR: a grammar is good if every rule in it derives, and no two productions clash", TermsTest::good);
         A.test("GRAMMAR: a sentence has one derivation", TermsTest::oneDerivation);
 
+        A.test("TEXTS: a kind 0..9, a value 0..15, 20 tokens at most", TermsTest::tokens);
+        A.test("TEXTS: a sentence if rule 0 derives the string of its kinds", TermsTest::sentence);
         A.test("TEXTS: a token has the role of its symbol", TermsTest::rolesOfSymbols);
         A.test("TEXTS: the scopes of a token contain it", TermsTest::scopesContain);
         A.test("TEXTS: the innermost contains fewest tokens", TermsTest::innermost);
         A.test("TEXTS: scopes with equally many tokens are one", TermsTest::equalScopes);
+        A.test("TEXTS: a definition defines directly in its innermost scope, or in the root", TermsTest::definesDirectly);
         A.test("TEXTS: definitions and references are numbered by their positions", TermsTest::numberedByPosition);
         A.test("TEXTS: an import in a scope is an import", TermsTest::importInScope);
         A.test("TEXTS: an import makes the file with number value mod 4 imported", TermsTest::importOfEveryValue);
@@ -90,6 +95,21 @@ public final class TermsTest {
         A.due("rule 5, though entered first, is not the start", x.errorAt(1), 0);
         A.due("rule 3 is not the start", x.errorAt(2), 0);
         build(LanguageDesk.UNPRODUCTIVE, "1 : 1", "2 : 2");
+    }
+
+    private static void symbols() {
+        LanguageDesk x = new LanguageDesk();
+        x.production(0, false);
+        int[] row = {3, 11, 3, 11};
+        for (int s : row) {
+            A.due("symbol", x.symbol(s, 0), true);
+        }
+        A.due("a fifth symbol", x.symbol(3, 0), false);
+        x.production(1, false);
+        A.due("no symbols are a production too", x.build(), 0);
+        Desks.append(x, 0, "3.0 3.0");
+        A.due("four symbols, two of them empty", x.errorAt(0), -1);
+        A.due("nothing comes behind them", x.expected(0, 2), 1024);
     }
 
     private static void numbers() {
@@ -176,6 +196,16 @@ public final class TermsTest {
         build(34, "0 : R1 2", "1 : R2", "1 : 4", "2 : 4", "2 :");
     }
 
+    private static void good() {
+        build(16);
+        build(16, "1 : 1");
+        build(19, "0 : 1", "3 : 3 R3");
+        build(21, "0 : 1", "0 : 2 R5");
+        build(0, "0 : 1", "0 : 2");
+        build(0, "0 : 1", "1 : 1");
+        build(34, "0 : 1", "0 : 2", "0 : 1 2");
+    }
+
     private static void oneDerivation() {
         // A 1 behind a 1 could end the first 1's phrase or begin the next one.
         build(36, "0 : R1 R0", "0 :", "1* : 1 R2", "2 : 1r", "2 :");
@@ -185,6 +215,31 @@ public final class TermsTest {
         A.due("the first phrase", x.scope(0, 0), 1);
         A.due("the first phrase", x.scope(0, 1), 1);
         A.due("the second phrase", x.scope(0, 2), 32 * 2 + 2);
+    }
+
+    private static void tokens() {
+        LanguageDesk x = Desks.built("0 : 1");
+        A.due("kind 10", x.put(0, 0, 10, 0), false);
+        A.due("value 16", x.put(0, 0, 0, 16), false);
+        for (int at = 0; at < 20; at++) {
+            A.due("put at " + at, x.put(0, at, 9, 15), true);
+            A.due("token at " + at, x.token(0, at), 159);
+        }
+        A.due("a token at 20", x.put(0, 20, 9, 15), false);
+        A.due("there is none", x.token(0, 20), -1);
+    }
+
+    private static void sentence() {
+        LanguageDesk x = Desks.built("0 : 1 R0 2", "0 : 3", "4 : 5");
+        appendAll(x, "1.4 1.5 3.6 2.7 2.8", "1.0 3.0", "3.0 2.0", "5.0");
+        int[] want = {-1, 2, 1, 0};
+        for (int file = 0; file < want.length; file++) {
+            A.due("errorAt of file " + file, x.errorAt(file), want[file]);
+        }
+        x.put(0, 0, 1, 15);
+        A.due("values do not count", x.errorAt(0), -1);
+        x.put(0, 2, 5, 6);
+        A.due("what rule 4 derives does not count", x.errorAt(0), 2);
     }
 
     private static void rolesOfSymbols() {
@@ -237,6 +292,15 @@ public final class TermsTest {
         Desks.append(x, 0, "1.5 2.5");
         A.due("empty parts count for nothing", x.scope(0, 0), 1);
         A.due("the definition beside it", x.target(0, 0), 0);
+    }
+
+    private static void definesDirectly() {
+        target(-1, "2.0 0.1 3.0 1.1");
+        target(-1, "2.0 2.0 0.1 3.0 1.1 3.0");
+        target(0, "2.0 2.0 1.1 3.0 0.1 3.0");
+        target(0, "0.1 2.0 2.0 1.1 3.0 3.0");
+        target(-1, "4.1 1.1", "2.0 0.1 3.0");
+        target(32, "4.1 1.1", "0.1 2.0 3.0");
     }
 
     private static void numberedByPosition() {
